@@ -89,6 +89,7 @@ public final class PromisesTest {
         Due.due("way: fourth of action 0", x.way(5, 0, to(5, 9)), -4);
         Due.due("way: third of action 1", x.way(5, 1, to(1, 9)), 3);
         Due.due("way: fourth of action 1", x.way(5, 1, to(1, 9)), -4);
+        Due.due("way: action 2 beside two", x.way(5, 2, to(1, 9)), -2);
         Due.due("way: another state's action", x.way(4, 0, to(5, 9)), 1);
         Due.due("way: share 1 to state 0", x.way(0, 0, 1), 1);
     }
@@ -151,6 +152,16 @@ public final class PromisesTest {
         dueBest("still: old ways are gone", x, 0, 0, 1);
         Due.due("still: action 1 begins anew", x.way(0, 1, to(1, 2)), 1);
         dueBest("still: new ways count", x, 0, 1, 1);
+        x.still(0);
+        x.way(0, 0, to(1, 1));
+        x.way(0, 0, to(0, 1));
+        x.way(0, 0, to(1, 9));
+        x.still(0);
+        x.still(2);
+        x.way(0, 0, to(1, 1));
+        x.way(0, 0, to(2, 3));
+        dueBest("still: fewer ways than before", x, 0, 1, 4);
+        x.way(2, 0, to(1, 5));
         Due.due("still: one", x.still(2), 1);
         Due.due("still: goals stay goals", x.still(1), 0);
         dueBest("still: goals stay goals", x, 1, 1, 1);
@@ -432,6 +443,13 @@ public final class PromisesTest {
         }
         x.goal(3, 1);
         Due.due("compare two goals", x.compare(2, 3), 0);
+        x.goal(3, 0);
+        x.still(0);
+        x.way(0, 0, to(2, 1));
+        x.way(0, 0, to(3, 1));
+        // Now 1/2 for sure against 1/3 to 2/3: only best chances count.
+        Due.due("compare best, not worst", x.compare(0, 1), 2);
+        Due.due("compare best, not worst", x.compare(1, 0), 1);
         // 4/5 against 5/6: neither numerators nor denominators alone tell.
         ChanceForests y = new ChanceForests(4);
         y.goal(3, 1);
