@@ -1,8 +1,5 @@
 /** Each promise of the document by hand: ordinary inputs, the edges it names, and wrong inputs. */
-public final class PromisesTest {
-    private static final int LEAST = Integer.MIN_VALUE;
-    private static final int MOST = Integer.MAX_VALUE;
-
+public final class PromisesTest extends Walks {
     public static void main(String[] args) {
         newObject();
         newObjectIsStillWithoutGoals();
@@ -23,26 +20,6 @@ public final class PromisesTest {
         sets();
         compare();
         Due.end();
-    }
-
-    private static int to(int next, int share) {
-        return 16 * next + share;
-    }
-
-    private static void dueChance(String name, ChanceForests x, int state, int plan, long top, long bottom) {
-        String call = name + ": chance(" + state + ", " + plan + ")";
-        Due.due(call + " top", x.chanceTop(state, plan), top);
-        Due.due(call + " bottom", x.chanceBottom(state, plan), bottom);
-    }
-
-    private static void dueBest(String name, ChanceForests x, int state, long top, long bottom) {
-        Due.due(name + ": bestTop(" + state + ")", x.bestTop(state), top);
-        Due.due(name + ": bestBottom(" + state + ")", x.bestBottom(state), bottom);
-    }
-
-    private static void dueWorst(String name, ChanceForests x, int state, long top, long bottom) {
-        Due.due(name + ": worstTop(" + state + ")", x.worstTop(state), top);
-        Due.due(name + ": worstBottom(" + state + ")", x.worstBottom(state), bottom);
     }
 
     /** Promises 1 and 2. */
@@ -298,21 +275,6 @@ public final class PromisesTest {
         y.goal(5, 1);
         dueChance("long but sure", y, 0, 0, 1, 1);
         Due.due("long but sure: sure()", y.sure(), 63);
-    }
-
-    /** Two states with a choice each: better chances need both choices. */
-    private static ChanceForests twoChoices() {
-        ChanceForests x = new ChanceForests(4);
-        x.way(0, 0, to(1, 1));
-        x.way(0, 0, to(3, 3));
-        x.way(0, 1, to(1, 1));
-        x.way(0, 1, to(3, 1));
-        x.way(1, 0, to(2, 1));
-        x.way(1, 0, to(3, 2));
-        x.way(1, 1, to(2, 2));
-        x.way(1, 1, to(3, 1));
-        x.goal(2, 1);
-        return x;
     }
 
     /** Promises 9 and 10. */
