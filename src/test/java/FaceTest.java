@@ -11,7 +11,7 @@ import java.util.TreeSet;
 import java.util.regex.Matcher;
 import java.util.regex.Pattern;
 
-/** The public face of the document, and the rules of LANGUAGE.md that can be seen without reading closely. */
+/** The public face of the document, and the rules of LANGUAGE.md that members and words alone tell. */
 public final class FaceTest {
     private static final Path SOURCE = Path.of("src/main/java/ChanceForests.java");
 

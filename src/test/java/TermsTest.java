@@ -1,10 +1,18 @@
 import java.util.ArrayList;
+import java.util.HashMap;
 import java.util.List;
+import java.util.Map;
 import java.util.function.Consumer;
 import java.util.function.ToLongFunction;
+import java.util.stream.IntStream;
 
 /** The sections "What it is" and "Terms": each sentence that names a boundary case has a method of its own. */
 public final class TermsTest extends Walks {
+    private record Probe(ToLongFunction<ChanceForests> call, long want) {
+    }
+
+    private static final Map<Integer, List<Probe>> PROBES = new HashMap<>();
+
     public static void main(String[] args) {
         callsUpTo512();
         statesFromZero();
@@ -478,115 +486,162 @@ public final class TermsTest extends Walks {
         dueBest("not 0", x, 3, 3, 7);
     }
 
-    /** A graph from which every kind of refusal can be got: both actions of 0 are full, 2 is the goal. */
-    private static ChanceForests eventful() {
-        ChanceForests x = new ChanceForests(4);
+    /**
+     * From it every kind of refusal can be got: both actions of 0 are full, 1 has room, the last is still.
+     * The goal is 2, or 1 of three states, so that the walk can be lost in the last.
+     */
+    private static ChanceForests eventful(int n) {
+        ChanceForests x = new ChanceForests(n);
         x.way(0, 0, to(1, 3));
         x.way(0, 0, to(2, 1));
         x.way(0, 0, to(0, 5));
         x.way(0, 1, to(2, 2));
-        x.way(0, 1, to(3, 7));
+        x.way(0, 1, to(n - 1, 7));
         x.way(0, 1, to(1, 4));
         x.way(1, 0, to(2, 1));
-        x.way(1, 0, to(3, 1));
-        x.goal(2, 1);
+        x.way(1, 0, to(n == 3 ? 0 : n - 1, 1));
+        for (int s = 3; s < n - 1; s++) {
+            x.way(s, 0, to(s - 1, 2));
+            x.way(s, 0, to(n - 1, 1));
+            x.way(s, 1, to(1, 5));
+            x.way(s, 1, to(s + 1, 1));
+        }
+        x.goal(n == 3 ? 1 : 2, 1);
         return x;
     }
 
+    /** All plans of up to four states; to save time, of more those that have or lack one bit at most. */
+    private static int[] plans(int n) {
+        return IntStream.range(0, 1 << n).filter(plan -> n <= 4 || Integer.bitCount(plan) % (n - 1) <= 1).toArray();
+    }
+
     /** All that can be asked of the graph. */
-    private static List<ToLongFunction<ChanceForests>> questions() {
+    private static List<ToLongFunction<ChanceForests>> questions(int n) {
         List<ToLongFunction<ChanceForests>> all = new ArrayList<>(List.of(
             x -> x.states(), x -> x.bestPlan(), x -> x.sure(), x -> x.hopeless(), x -> x.forced()));
-        for (int state = 0; state < 4; state++) {
+        for (int state = 0; state < n; state++) {
             int s = state;
             all.addAll(List.of(x -> x.actions(s), x -> x.bestTop(s), x -> x.bestBottom(s), x -> x.worstTop(s),
-                x -> x.worstBottom(s), x -> x.compare(s, 0), x -> x.compare(s, 1), x -> x.compare(s, 2),
-                x -> x.compare(s, 3)));
-            for (int plan = 0; plan < 16; plan++) {
-                int p = plan;
-                all.addAll(List.of(x -> x.chanceTop(s, p), x -> x.chanceBottom(s, p)));
+                x -> x.worstBottom(s)));
+            for (int other = 0; other < n; other++) {
+                int t = other;
+                all.add(x -> x.compare(s, t));
+            }
+            for (int plan : plans(n)) {
+                all.addAll(List.of(x -> x.chanceTop(s, plan), x -> x.chanceBottom(s, plan)));
             }
         }
         return all;
     }
 
     /** The questions, and what else brings to light which states are goals and how many ways there are. */
-    private static List<ToLongFunction<ChanceForests>> probes() {
-        List<ToLongFunction<ChanceForests>> all = questions();
-        for (int state = 0; state < 4; state++) {
+    private static List<Probe> probes(int n) {
+        List<ToLongFunction<ChanceForests>> all = questions(n);
+        for (int state = 0; state < n; state++) {
             int s = state;
-            all.addAll(List.of(x -> x.goal(s, 0), x -> x.still(s), x -> x.way(s, 0, to(3, 1)),
-                x -> x.way(s, 1, to(3, 1)), x -> x.way(s, 0, to(3, 1)) * 10 + x.way(s, 1, to(3, 1)),
-                x -> x.way(s, 0, to(2, 1)) * 100_000 + x.bestBottom(s)));
+            all.addAll(List.of(x -> x.goal(s, 0), x -> x.still(s), x -> x.way(s, 0, to(n - 1, 1)),
+                x -> x.way(s, 1, to(n - 1, 1)), x -> x.way(s, 0, to(n - 1, 1)) * 10 + x.way(s, 1, to(n - 1, 1)),
+                x -> x.way(s, 0, to(2, 1)) * 100_000 + x.bestBottom(s), x -> chancesTo(s, n, x)));
+        }
+        return all.stream().map(call -> new Probe(call, call.applyAsLong(eventful(n)))).toList();
+    }
+
+    /** All chances under the first and the last plan, in one number, with s as the only goal. */
+    private static long chancesTo(int s, int n, ChanceForests x) {
+        for (int t = 0; t < n; t++) {
+            x.goal(t, t == s ? 1 : 0);
+        }
+        long all = 0;
+        for (int i = 1; i <= n; i++) {
+            int t = (s + i) % n;
+            for (int plan = 0; plan < 1 << n; plan += all(n)) {
+                all = 31 * (31 * all + x.chanceBottom(t, plan)) + x.chanceTop(t, plan);
+            }
         }
         return all;
     }
 
-    /** Each probe is made on an object of its own, with the call before it and without. */
-    private static void dueUnchanged(String name, Consumer<ChanceForests> call) {
-        List<ToLongFunction<ChanceForests>> probes = probes();
+    /** Each probe is made on an object of its own, with the call before it; its due is the answer without. */
+    private static void dueUnchanged(String name, int n, Consumer<ChanceForests> call) {
+        List<Probe> probes = PROBES.computeIfAbsent(n, TermsTest::probes);
         for (int i = 0; i < probes.size(); i++) {
-            ChanceForests x = eventful();
+            ChanceForests x = eventful(n);
             call.accept(x);
-            long want = probes.get(i).applyAsLong(eventful());
-            Due.due("probe " + i + " after " + name, probes.get(i).applyAsLong(x), want);
+            long got = probes.get(i).call().applyAsLong(x);
+            Due.due("n " + n + ", probe " + i + " after " + name, got, probes.get(i).want());
         }
     }
 
     /** "No question changes anything." */
     private static void questionsChangeNothing() {
-        List<ToLongFunction<ChanceForests>> questions = questions();
-        for (int i = 0; i < questions.size(); i++) {
-            int asked = i;
-            dueUnchanged("question " + i, x -> questions.get(asked).applyAsLong(x));
+        for (int n = 3; n <= 6; n++) {
+            List<ToLongFunction<ChanceForests>> questions = questions(n);
+            for (int i = 0; i < questions.size(); i++) {
+                int asked = i;
+                dueUnchanged("question " + i, n, x -> questions.get(asked).applyAsLong(x));
+            }
+            dueUnchanged("every question", n, x -> questions.forEach(question -> question.applyAsLong(x)));
         }
-        dueUnchanged("every question", x -> questions.forEach(question -> question.applyAsLong(x)));
     }
 
-    private static void dueRefused(String name, int want, ToLongFunction<ChanceForests> call) {
-        dueUnchanged(name, x -> Due.due(name, call.applyAsLong(x), want));
+    private static void dueRefused(String name, int n, int want, ToLongFunction<ChanceForests> call) {
+        dueUnchanged(name, n, x -> Due.due(name, call.applyAsLong(x), want));
     }
 
     /** "A refused call changes nothing." */
     private static void refusedCallsChangeNothing() {
-        for (int bad : outside(4)) {
-            dueRefused("way of state " + bad, -1, x -> x.way(bad, 0, to(2, 1)));
-            dueRefused("still(" + bad + ")", -1, x -> x.still(bad));
-            dueRefused("goal(" + bad + ", 1)", -1, x -> x.goal(bad, 1));
-            dueRefused("goal(" + bad + ", 0)", -1, x -> x.goal(bad, 0));
-            dueRefused("actions(" + bad + ")", -1, x -> x.actions(bad));
-            dueRefused("chanceTop(" + bad + ", 0)", -1, x -> x.chanceTop(bad, 0));
-            dueRefused("chanceBottom(" + bad + ", 0)", -1, x -> x.chanceBottom(bad, 0));
-            dueRefused("bestTop(" + bad + ")", -1, x -> x.bestTop(bad));
-            dueRefused("bestBottom(" + bad + ")", -1, x -> x.bestBottom(bad));
-            dueRefused("worstTop(" + bad + ")", -1, x -> x.worstTop(bad));
-            dueRefused("worstBottom(" + bad + ")", -1, x -> x.worstBottom(bad));
-            dueRefused("compare(" + bad + ", 0)", -1, x -> x.compare(bad, 0));
-            dueRefused("compare(0, " + bad + ")", -1, x -> x.compare(0, bad));
+        for (int n = 3; n <= 6; n++) {
+            badStatesChangeNothing(n);
+            badPlansChangeNothing(n);
+            badActionsAndWaysChangeNothing(n);
         }
-        for (int bad : outside(2)) {
-            dueRefused("way of action " + bad, -2, x -> x.way(1, bad, to(2, 1)));
+    }
+
+    private static void badStatesChangeNothing(int n) {
+        for (int bad : outside(n)) {
+            dueRefused("way of state " + bad, n, -1, x -> x.way(bad, 0, to(2, 1)));
+            dueRefused("still(" + bad + ")", n, -1, x -> x.still(bad));
+            dueRefused("goal(" + bad + ", 1)", n, -1, x -> x.goal(bad, 1));
+            dueRefused("goal(" + bad + ", 0)", n, -1, x -> x.goal(bad, 0));
+            dueRefused("actions(" + bad + ")", n, -1, x -> x.actions(bad));
+            dueRefused("chanceTop(" + bad + ", 0)", n, -1, x -> x.chanceTop(bad, 0));
+            dueRefused("chanceBottom(" + bad + ", 0)", n, -1, x -> x.chanceBottom(bad, 0));
+            dueRefused("bestTop(" + bad + ")", n, -1, x -> x.bestTop(bad));
+            dueRefused("bestBottom(" + bad + ")", n, -1, x -> x.bestBottom(bad));
+            dueRefused("worstTop(" + bad + ")", n, -1, x -> x.worstTop(bad));
+            dueRefused("worstBottom(" + bad + ")", n, -1, x -> x.worstBottom(bad));
+            dueRefused("compare(" + bad + ", 0)", n, -1, x -> x.compare(bad, 0));
+            dueRefused("compare(0, " + bad + ")", n, -1, x -> x.compare(0, bad));
         }
-        for (int bad : outside(16)) {
-            for (int state = 0; state < 4; state++) {
+    }
+
+    private static void badPlansChangeNothing(int n) {
+        for (int bad : outside(1 << n)) {
+            for (int state = 0; state < n; state++) {
                 int s = state;
-                dueRefused("chanceTop(" + s + ", " + bad + ")", -2, x -> x.chanceTop(s, bad));
-                dueRefused("chanceBottom(" + s + ", " + bad + ")", -2, x -> x.chanceBottom(s, bad));
+                dueRefused("chanceTop(" + s + ", " + bad + ")", n, -2, x -> x.chanceTop(s, bad));
+                dueRefused("chanceBottom(" + s + ", " + bad + ")", n, -2, x -> x.chanceBottom(s, bad));
             }
         }
-        dueRefused("way of action 1 before 0", -2, x -> x.way(3, 1, to(2, 1)));
-        for (int bad : new int[] {LEAST, -15, -1, 0, 10, 15, 16, 26, 64, 65, 73, 257, MOST}) {
-            dueRefused("way " + bad + " of an old action", -3, x -> x.way(1, 0, bad));
-            dueRefused("way " + bad + " of a new action 0", -3, x -> x.way(3, 0, bad));
-            dueRefused("way " + bad + " of a new action 1", -3, x -> x.way(1, 1, bad));
+    }
+
+    private static void badActionsAndWaysChangeNothing(int n) {
+        for (int bad : outside(2)) {
+            dueRefused("way of action " + bad, n, -2, x -> x.way(1, bad, to(2, 1)));
         }
-        dueRefused("a fourth way of action 0", -4, x -> x.way(0, 0, to(2, 9)));
-        dueRefused("a fourth way of action 1", -4, x -> x.way(0, 1, to(2, 9)));
+        dueRefused("way of action 1 before 0", n, -2, x -> x.way(n - 1, 1, to(2, 1)));
+        for (int bad : new int[] {LEAST, -15, -1, 0, 10, 15, 16, 26, to(n, 0), to(n, 1), to(n, 9), 257, MOST}) {
+            dueRefused("way " + bad + " of an old action", n, -3, x -> x.way(1, 0, bad));
+            dueRefused("way " + bad + " of a new action 0", n, -3, x -> x.way(n - 1, 0, bad));
+            dueRefused("way " + bad + " of a new action 1", n, -3, x -> x.way(1, 1, bad));
+        }
+        dueRefused("a fourth way of action 0", n, -4, x -> x.way(0, 0, to(2, 9)));
+        dueRefused("a fourth way of action 1", n, -4, x -> x.way(0, 1, to(2, 9)));
     }
 
     /** "In every method the tests are made in the order named" */
     private static void testsInOrder() {
-        ChanceForests x = eventful();
+        ChanceForests x = eventful(4);
         for (int bad : outside(4)) {
             Due.due("state before action", x.way(bad, 2, to(2, 1)), -1);
             Due.due("state before action 1 without 0", x.way(bad, 1, to(2, 1)), -1);
